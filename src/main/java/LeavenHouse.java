@@ -1193,8 +1193,8 @@ public final class LeavenHouse {
         private static final int AT_MOST = 3;
         private static final int AT_LEAST = 4;
         // Any other sign is a token of its own byte's number; words are these, as WORDS has them.
-        private static final String WORDS = "tires price join pour bake make day number pounds age "
-                + "full odd fund double crock if then else end and or not ";
+        private static final String WORDS =
+                "tires price join pour bake make day number pounds age full odd fund double crock if then else end and or not ";
         static final int TIRES = 100;
         static final int PRICE = 101;
         static final int JOIN = 102;
@@ -1867,14 +1867,14 @@ public final class LeavenHouse {
                     continue;
                 }
                 int price = doubles && sums ? Math.min(twice, joined) : doubles ? twice : joined;
-                if (paid + price + leastFrom(v, there) < best) {
+                if (paid + price + leastFrom(v) < best) {
                     spend(v, there | 1L << v, pairs | there << v, paid + price, links + 1);
                 }
             }
         }
 
         /** What must be paid yet: so many steps, as each doubles at most. */
-        private int leastFrom(int last, long there) {
+        private int leastFrom(int last) {
             int steps = 0;
             for (int v = last; v < goal; v *= 2) {
                 steps++;
