@@ -1056,6 +1056,8 @@ public final class LeavenHouse {
         private static final int MOST_WAITING = 64;
 
         private final int[] stack = new int[MOST_WAITING];
+        /** Counted once for a law, however often it asks. */
+        private int full;
 
         int tiresOf(Text text, House house, int crock) {
             if (text == null || text.tiresFrom == NONE) {
@@ -1075,6 +1077,7 @@ public final class LeavenHouse {
 
         private int valueOf(Text text, int from, int to, House house, int crock) {
             int held = 0;
+            full = NONE;
             for (int at = from; at >= 0 && at < to && at < Text.MOST_CODE; at++) {
                 int op = text.code[at] & 31;
                 int operand = text.code[at] >> 5;
@@ -1101,7 +1104,7 @@ public final class LeavenHouse {
             return held > 0 ? stack[held - 1] : 0;
         }
 
-        private static int named(int op, House house, int crock) {
+        private int named(int op, House house, int crock) {
             switch (op) {
                 case DAY:
                     return house.date;
@@ -1112,7 +1115,8 @@ public final class LeavenHouse {
                 case AGE:
                     return house.ages[crock];
                 case FULL:
-                    return Integer.bitCount(house.fullBits());
+                    full = full == NONE ? Integer.bitCount(house.fullBits()) : full;
+                    return full;
                 case ODD:
                     return house.pounds[crock] % 2;
                 default:
@@ -1867,19 +1871,40 @@ public final class LeavenHouse {
                     continue;
                 }
                 int price = doubles && sums ? Math.min(twice, joined) : doubles ? twice : joined;
-                if (paid + price + leastFrom(v) < best) {
-                    spend(v, there | 1L << v, pairs | there << v, paid + price, links + 1);
+                long more = there | 1L << v;
+                if (paid + price + leastFrom(v, more) < best) {
+                    spend(v, more, pairs | there << v, paid + price, links + 1);
                 }
             }
         }
 
-        /** What must be paid yet: so many steps, as each doubles at most. */
-        private int leastFrom(int last) {
+        /** What must be paid yet at least: each step doubles at most. */
+        private int leastFrom(int last, long there) {
             int steps = 0;
             for (int v = last; v < goal; v *= 2) {
                 steps++;
             }
-            return steps * Math.min(twice, joined);
+            if (steps == 0 || joined <= twice) {
+                return steps * Math.min(twice, joined);
+            }
+            int withJoining = (steps - 1) * twice + joined;
+            int doublings = doublingsFrom(there);
+            return doublings == NONE ? withJoining : Math.min(doublings * twice, withJoining);
+        }
+
+        /** How many doublings of a number there make the goal; NONE if it needs a joining. */
+        private int doublingsFrom(long there) {
+            int doublings = 0;
+            for (int v = goal; v > 0; v /= 2) {
+                if ((there >>> v & 1) == 1) {
+                    return doublings;
+                }
+                if (v % 2 == 1) {
+                    return NONE;
+                }
+                doublings++;
+            }
+            return NONE;
         }
     }
 
