@@ -299,7 +299,7 @@ public final class LeavenHouse {
     }
 
     public int chain(int n, int i) {
-        return known.linkOf(n, i);
+        return i >= 0 && i <= known.joiningsOf(n) ? known.linkOf(n, i) : NONE;
     }
 
     public long chains(int n) {
@@ -453,11 +453,12 @@ public final class LeavenHouse {
     }
 
     /**
-     * A chain in which a number below its last is missing can take in the least missing one (one
-     * more than one that is there), so all lengths from the fewest to n - 1 joinings are to be had.
+     * For n above the joinings: a chain in which a number below its last is missing can take in the
+     * least missing one (one more than one that is there), so n is the last of chains of all lengths
+     * from its fewest to n - 1 joinings.
      */
     private boolean isReached(int n, int joinings) {
-        return n > joinings && known.joiningsOf(n) <= joinings;
+        return known.joiningsOf(n) <= joinings;
     }
 
     public int first(int joinings) {
@@ -977,25 +978,23 @@ public final class LeavenHouse {
         static final int MOST_CLAUSES = 24;
         /** No token of a text makes more than one step. */
         static final int MOST_CODE = 300;
+        static final int TIRES = 0;
+        static final int PRICE = 1;
 
         final int[] kinds = new int[MOST_CLAUSES];
         final int[] firsts = new int[MOST_CLAUSES];
         final int[] seconds = new int[MOST_CLAUSES];
         final int[] code = new int[MOST_CODE];
+        final int[] lawFrom = {NONE, NONE};
+        final int[] lawTo = {NONE, NONE};
         int clauses;
         int codeLength;
-        int tiresFrom;
-        int tiresTo;
-        int priceFrom;
-        int priceTo;
 
         void forget() {
             clauses = 0;
             codeLength = 0;
-            tiresFrom = NONE;
-            tiresTo = NONE;
-            priceFrom = NONE;
-            priceTo = NONE;
+            lawFrom[TIRES] = NONE;
+            lawFrom[PRICE] = NONE;
         }
 
         void addClause(int kind, int first, int second) {
@@ -1060,25 +1059,26 @@ public final class LeavenHouse {
         private int full;
 
         int tiresOf(Text text, House house, int crock) {
-            if (text == null || text.tiresFrom == NONE) {
+            if (text == null || text.lawFrom[Text.TIRES] == NONE) {
                 return 2;
             }
-            int value = valueOf(text, text.tiresFrom, text.tiresTo, house, crock);
+            int value = valueOf(text, Text.TIRES, house, crock);
             return Math.max(0, Math.min(MOST_TIRES, value));
         }
 
         int priceOf(Text text, House house, int crock) {
-            if (text == null || text.priceFrom == NONE) {
+            if (text == null || text.lawFrom[Text.PRICE] == NONE) {
                 return house.pounds[crock];
             }
-            int value = valueOf(text, text.priceFrom, text.priceTo, house, crock);
+            int value = valueOf(text, Text.PRICE, house, crock);
             return Math.max(0, Math.min(9999, value));
         }
 
-        private int valueOf(Text text, int from, int to, House house, int crock) {
+        private int valueOf(Text text, int law, House house, int crock) {
+            int end = Math.min(text.lawTo[law], Text.MOST_CODE);
             int held = 0;
             full = NONE;
-            for (int at = from; at >= 0 && at < to && at < Text.MOST_CODE; at++) {
+            for (int at = Math.max(text.lawFrom[law], 0); at < end; at++) {
                 int op = text.code[at] & 31;
                 int operand = text.code[at] >> 5;
                 if (op < JUMP) {
@@ -1223,7 +1223,7 @@ public final class LeavenHouse {
         int faultKind = NONE;
         int faultPlace = NONE;
         private Text target;
-        private boolean inTires;
+        private int law;
         private int token;
         private int place;
         private int behind;
@@ -1266,8 +1266,7 @@ public final class LeavenHouse {
             if (word < TIRES || word > DAY) {
                 return failed(CANT_STAND);
             }
-            if (word == TIRES && target.tiresFrom != NONE
-                    || word == PRICE && target.priceFrom != NONE) {
+            if (word <= PRICE && target.lawFrom[word - TIRES] != NONE) {
                 return failed(SECOND_TIME);
             }
             if (target.clauses >= Text.MOST_CLAUSES) {
@@ -1277,7 +1276,14 @@ public final class LeavenHouse {
             switch (word) {
                 case TIRES:
                 case PRICE:
-                    return readLaw(word);
+                    law = word - TIRES;
+                    target.lawFrom[law] = target.codeLength;
+                    if (!readSum(0) || !take(';')) {
+                        return false;
+                    }
+                    target.lawTo[law] = target.codeLength;
+                    target.addClause(word, 0, 0);
+                    return true;
                 case JOIN:
                     return readJoin();
                 case DAY:
@@ -1287,23 +1293,6 @@ public final class LeavenHouse {
                 default:
                     return readOrder(word, 0, CROCKS - 1);
             }
-        }
-
-        private boolean readLaw(int word) {
-            int from = target.codeLength;
-            inTires = word == TIRES;
-            if (!readSum(0) || !take(';')) {
-                return false;
-            }
-            if (inTires) {
-                target.tiresFrom = from;
-                target.tiresTo = target.codeLength;
-            } else {
-                target.priceFrom = from;
-                target.priceTo = target.codeLength;
-            }
-            target.addClause(word, 0, 0);
-            return true;
         }
 
         private boolean readJoin() {
@@ -1408,7 +1397,7 @@ public final class LeavenHouse {
         }
 
         private boolean readName() {
-            if (token == (inTires ? FUND : ODD)) {
+            if (token == (law == Text.TIRES ? FUND : ODD)) {
                 return failed(OTHER_NAME);
             }
             target.addCode(token - DAY + Laws.DAY, 0);
@@ -1604,9 +1593,9 @@ public final class LeavenHouse {
         private static final int BEYOND = 1000;
 
         private final int[] links = new int[MOST_LINKS];
-        // Bits 0 .. 63 and 64 .. 127: which numbers stand in the first links, and their sums.
-        private final long[] hasLow = new long[MOST_LINKS];
-        private final long[] hasHigh = new long[MOST_LINKS];
+        // As bits: which numbers below 64 the first links have (those above are joined with them
+        // alone, as two of them make more than 120), and the sums 0 .. 63 and 64 .. 127 of two links.
+        private final long[] has = new long[MOST_LINKS];
         private final long[] sumLow = new long[MOST_LINKS];
         private final long[] sumHigh = new long[MOST_LINKS];
         private final int[] wanted = new int[MOST_ORDERS];
@@ -1625,27 +1614,22 @@ public final class LeavenHouse {
             if (n < 1 || n > MOST) {
                 return NONE;
             }
-            learn(n);
+            if (numbersKnown[n] == 0) {
+                wantedCount = 0;
+                want(n);
+                findLowest();
+                numbersKnown[n] = Math.min(ROW, joinings + 1);
+                System.arraycopy(links, 0, rows, n * ROW, numbersKnown[n]);
+            }
             return numbersKnown[n] - 1;
         }
 
+        /** Behind joiningsOf: the i-th number of the lowest shortest chain. */
         int linkOf(int n, int i) {
-            if (n < 1 || n > MOST) {
+            if (n < 1 || n > MOST || i < 0 || i >= numbersKnown[n]) {
                 return NONE;
             }
-            learn(n);
-            return i >= 0 && i < numbersKnown[n] ? rows[n * ROW + i] : NONE;
-        }
-
-        private void learn(int n) {
-            if (numbersKnown[n] > 0) {
-                return;
-            }
-            wantedCount = 0;
-            want(n);
-            findLowest();
-            numbersKnown[n] = Math.min(ROW, joinings + 1);
-            System.arraycopy(links, 0, rows, n * ROW, numbersKnown[n]);
+            return rows[n * ROW + i];
         }
 
         int joiningsOfBoth(int a, int b) {
@@ -1719,16 +1703,20 @@ public final class LeavenHouse {
          */
         private boolean goesOn(int k, int met) {
             int left = joinings - k;
-            if (met >= wantedCount || left < wantedCount - met) {
-                return met >= wantedCount && left == 0;
+            if (met >= wantedCount) {
+                return left == 0;
+            }
+            if (left < wantedCount - met) {
+                return false;
             }
             int last = wanted[wantedCount - 1];
             int next = wanted[met];
             int low = Math.max(links[k] + 1, leastNext(last, left));
-            if (left == 2 && next == last) {
-                return endsWith(k, low, last);
-            }
             for (int v = sumFrom(k, low); v <= next; v = sumFrom(k, v + 1)) {
+                // A last link that doesn't come of the next one would make a shorter chain.
+                if (left == 2 && next == last && v + v != last && !isLink(k, last - v)) {
+                    continue;
+                }
                 put(k + 1, v);
                 if (goesOn(k + 1, v == next ? met + 1 : met)) {
                     return true;
@@ -1737,15 +1725,8 @@ public final class LeavenHouse {
             return false;
         }
 
-        private boolean endsWith(int k, int low, int last) {
-            for (int v = sumFrom(k, low); v < last; v = sumFrom(k, v + 1)) {
-                if (v + v == last || has(k, last - v)) {
-                    links[k + 1] = v;
-                    links[k + 2] = last;
-                    return true;
-                }
-            }
-            return false;
+        private boolean isLink(int k, int v) {
+            return v >= 0 && v < 64 && (has[k] >>> v & 1) == 1;
         }
 
         /**
@@ -1753,39 +1734,30 @@ public final class LeavenHouse {
          * one ahead at most; an odd last one is no double, so two links make it three times at most.
          */
         private static int leastNext(int last, int left) {
-            int growth = left < 1 ? 1 : 1 << left - 1;
-            if (left >= 3 && last % 2 == 1) {
-                growth = 3 << left - 3;
-            }
+            int further = Math.max(left - 1, 0);
+            int growth = further >= 2 && last % 2 == 1 ? 3 << further - 2 : 1 << further;
             return (last + growth - 1) / growth;
         }
 
         private void put(int k, int v) {
-            links[k] = v;
-            long low = k > 0 ? hasLow[k - 1] : 0;
-            long high = k > 0 ? hasHigh[k - 1] : 0;
+            long lower = k > 0 ? has[k - 1] : 0;
             long sumsLow = k > 0 ? sumLow[k - 1] : 0;
             long sumsHigh = k > 0 ? sumHigh[k - 1] : 0;
             if (v < 64) {
-                low |= 1L << v;
-                sumsLow |= low << v;
-                sumsHigh |= high << v | low >>> 64 - v;
+                lower |= 1L << v;
+                sumsLow |= lower << v;
+                sumsHigh |= lower >>> 64 - v;
             } else {
-                high |= 1L << v - 64;
-                sumsHigh |= low << v - 64;
+                sumsHigh |= lower << v - 64;
             }
-            hasLow[k] = low;
-            hasHigh[k] = high;
+            links[k] = v;
+            has[k] = lower;
             sumLow[k] = sumsLow;
             sumHigh[k] = sumsHigh;
         }
 
-        private boolean has(int k, int v) {
-            return v >= 0 && ((v < 64 ? hasLow[k] >>> v : hasHigh[k] >>> v - 64) & 1) == 1;
-        }
-
-        private boolean hasSum(int k, int v) {
-            return v >= 0 && ((v < 64 ? sumLow[k] >>> v : sumHigh[k] >>> v - 64) & 1) == 1;
+        private boolean isSum(int k, int v) {
+            return ((v < 64 ? sumLow[k] >>> v : sumHigh[k] >>> v - 64) & 1) == 1;
         }
 
         /** The least sum of two of links 0 .. k that is v or more. */
@@ -1805,8 +1777,7 @@ public final class LeavenHouse {
                 return NONE;
             }
             if (ways[n] == 0) {
-                learn(n);
-                joinings = numbersKnown[n] - 1;
+                joinings = joiningsOf(n);
                 put(0, 1);
                 ways[n] = joinings < 2 ? 1 : tally(0, n);
             }
@@ -1829,9 +1800,9 @@ public final class LeavenHouse {
 
         /** In how many ways links 0 .. k have n as the second behind them. */
         private long endings(int k, int n) {
-            long sum = n % 2 == 0 && n / 2 > links[k] && hasSum(k, n / 2) ? 1 : 0;
+            long sum = n % 2 == 0 && n / 2 > links[k] && isSum(k, n / 2) ? 1 : 0;
             for (int i = 0; i <= k; i++) {
-                if (n - links[i] > links[k] && hasSum(k, n - links[i])) {
+                if (n - links[i] > links[k] && isSum(k, n - links[i])) {
                     sum++;
                 }
             }

@@ -70,6 +70,7 @@ public final class PromisesTest {
         laws();
         by();
         joins();
+        heaviest();
         poursAndBakes();
         days();
         plays();
@@ -358,11 +359,53 @@ public final class PromisesTest {
             x.join(i % 2 == 0 ? 3 : 7, i % 2 == 0 ? 3 : 7);
         }
         due("8192", x.of(7, 0), 8192);
+        promise = 44;
+        due("can", x.can(16384), 128);
+        due("can", x.can(12288), 8 | 128);
+        promise = 7;
         x.pour(3);
         due("above 9999", x.join(7, 7), -1);
         due("64 more", x.join(7, 6), 3);
         x.pour(0);
         due("8256 and 64", x.join(3, 6), 0);
+    }
+
+    /** By halves: crock 0 keeps its pound, the answer is the crock with so many. */
+    private static int heavy(LeavenHouse x, int pounds) {
+        int at = 0;
+        for (int bit = 30 - Integer.numberOfLeadingZeros(pounds); bit >= 0; bit--) {
+            for (int i = 0; i <= (pounds >> bit & 1); i++) {
+                int next = x.join(at, i == 0 ? at : 0);
+                if (at != 0) {
+                    x.pour(at);
+                }
+                at = next;
+            }
+        }
+        due("heavy " + pounds, x.of(at, 0), pounds);
+        return at;
+    }
+
+    private static void heaviest() {
+        promise = 7;
+        LeavenHouse x = ruled("tires 0;");
+        int most = heavy(x, 9998);
+        int at = x.join(most, 0);
+        due("9999", x.of(at, 0), 9999);
+        due("10000", x.join(at, 0), -1);
+        due("10000", x.join(0, at), -1);
+        due("19998", x.join(at, at), -1);
+        promise = 16;
+        due("book", x.book(24, 0), 0);
+        due("book", x.book(24, 1), 0);
+        due("book", x.book(24, 2), at);
+        due("book", x.book(24, 3), 9999);
+        promise = 44;
+        due("can", x.can(19998), 1 << at);
+        due("can", x.can(10000), 1 | 1 << at);
+        due("can", x.can(9998), -1);
+        promise = 9;
+        due("bake", x.bake(at), 9999);
     }
 
     private static void poursAndBakes() {
