@@ -112,7 +112,8 @@ public final class NumbersTest {
                 due("few again", x.few(n, crocks), want[n]);
             }
         }
-        int[][] others = {{0, 1}, {41, 1}, {5, 0}, {5, 4}, {-1, 2}, {Integer.MAX_VALUE, 2}};
+        int[][] others = {{0, 1}, {0, 2}, {41, 1}, {41, 2}, {41, 3}, {5, 0}, {5, 4}, {-1, 2},
+            {Integer.MAX_VALUE, 2}, {2, Integer.MIN_VALUE}};
         for (int[] o : others) {
             due("few " + o[0] + " " + o[1], x.few(o[0], o[1]), -1);
         }
