@@ -30,6 +30,7 @@ final class HouseEdges {
         yearsThatDoNothing();
         yearsAtTheLastDay();
         imageOfAll();
+        imageOfAFullBook();
         imageWithoutTapeAndFault();
     }
 
@@ -394,6 +395,28 @@ final class HouseEdges {
         line(y, y.book(-1, 0) - 2, 9999, 0, at, 9999);
         y.pour(at);
         line(y, y.book(-1, 0) - 1, 9999, 1, at, 9999);
+        linesOfLastDays();
+    }
+
+    private static void linesOfLastDays() {
+        for (int day : new int[] {0, 1, 9998}) {
+            LeavenHouse x = Edges.at(day);
+            Edges.fill(x);
+            Edges.rule(x, "tires if number=7 or number=0 then 10 else 0 end;");
+            x.pour(6);
+            x.bake(1);
+            x.day(1);
+            line(x, 0, day, 0, 1, 2);
+            line(x, 6, day, 0, 7, 128);
+            line(x, 7, day, 1, 6, 64);
+            line(x, 8, day, 2, 1, 2);
+            line(x, 9, day, 3, 0, 0);
+            line(x, 10, day, 3, 7, 64);
+            x.bake(7);
+            line(x, 11, day + 1, 2, 7, 64);
+            x.join(2, 2);
+            line(x, 12, day + 1, 0, 0, 8);
+        }
     }
 
     private static void thirtySteps() {
@@ -601,7 +624,7 @@ final class HouseEdges {
 
     private static void imageOfAll() {
         Edges.term("AN IMAGE: all as it is, but the tape and the latest FAULT. BACK: all is so again");
-        LeavenHouse x = Edges.ruled("tires 3;price 20;");
+        LeavenHouse x = Edges.ruled("tires number*3;price 20;");
         x.join(0, 0);
         x.join(1, 1);
         x.bake(1);
@@ -610,28 +633,70 @@ final class HouseEdges {
         x.order(9);
         x.tell(2);
         x.tell(3);
-        x.said(0, 3);
+        x.said(2, 6);
+        x.said(3, 9);
         x.image();
         List<Long> kept = Edges.all(x);
-        x.undo();
-        Edges.rule(x, "tires 10;");
-        x.day(30);
-        x.order(-1);
-        x.order(40);
-        x.tell(-1);
-        x.tell(9);
-        x.said(-1, 0);
-        x.said(2, 2);
-        x.by(-1);
-        x.end(0);
-        x.back();
-        Edges.like("all is so again", Edges.all(x), kept);
+        Edges.due("whose()", x.whose(), 1);
+        for (int round = 0; round < 2; round++) {
+            x.undo();
+            Edges.rule(x, "tires 10;");
+            x.day(30);
+            x.order(-1);
+            x.order(40);
+            x.tell(-1);
+            x.tell(9);
+            x.said(-1, 0);
+            if (round == 0) {
+                x.said(1, 1);
+                x.said(0, 10);
+                x.said(1, 10);
+            }
+            x.by(-1);
+            x.back();
+            Edges.like("all is so again", Edges.all(x), kept);
+        }
         // 1 2 3 4 7 9 has both orders.
         Edges.due("made(2)", x.made(2), 3);
         Edges.due("undo()", x.undo(), 4);
         Edges.due("DAY", x.is(0), 1);
         Edges.undoAll(x);
         Edges.due("crocks", x.is(3), 1);
+    }
+
+    private static void imageOfAFullBook() {
+        Edges.term("BACK: all is so again");
+        LeavenHouse x = Edges.ruled("tires 0;");
+        List<List<Long>> ahead = new ArrayList<>();
+        for (int i = 0; i < 28; i++) {
+            if (i >= 23) {
+                ahead.add(Edges.house(x));
+            }
+            switch (i % 4) {
+                case 0:
+                    x.join(0, 0);
+                    break;
+                case 1:
+                    x.join(0, 1);
+                    break;
+                case 2:
+                    x.pour(1);
+                    break;
+                default:
+                    x.pour(2);
+                    break;
+            }
+        }
+        x.image();
+        List<Long> kept = Edges.house(x);
+        x.bake(0);
+        x.back();
+        Edges.like("the book is as it was", Edges.house(x), kept);
+        Edges.term("(POUNDS, AGES, FUND, DAY, X, BOOK are as ahead of it)");
+        for (int i = 4; i >= 0; i--) {
+            x.undo();
+            Edges.like("the book is as ahead", Edges.house(x), ahead.get(i));
+        }
     }
 
     private static void imageWithoutTapeAndFault() {

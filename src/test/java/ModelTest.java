@@ -2,20 +2,29 @@ import java.util.ArrayList;
 import java.util.List;
 import java.util.Random;
 
-/** Long runs of drawn calls, each answer held against the Model's; the texts are drawn, too. */
+/**
+ * Runs of drawn calls, each answer held against the Model's; the texts are drawn, too. No object is
+ * used for more calls than the document promises something of.
+ */
 public final class ModelTest {
+    private static final int MOST_CALLS = 512;
+    /** What a look at the state takes, and what one that a text goes ahead of takes at most. */
+    private static final int LOOK = 100;
+    private static final int MOST_AT_ONCE = LOOK + 30;
+
     private final Random draws;
     private final LeavenHouse x = new LeavenHouse();
     private final Model m = new Model();
     private final List<String> said = new ArrayList<>();
     private int wrong = 0;
+    private int used = 0;
 
     private ModelTest(long seed) {
         draws = new Random(seed);
     }
 
     public static void main(String[] args) {
-        int runs = args.length > 0 ? Integer.parseInt(args[0]) : 3000;
+        int runs = args.length > 0 ? Integer.parseInt(args[0]) : 6000;
         int bad = 0;
         for (int run = 0; run < runs && bad < 5; run++) {
             ModelTest test = new ModelTest(run);
@@ -34,6 +43,7 @@ public final class ModelTest {
     }
 
     private void due(String call, long got, long want) {
+        used++;
         said.add(call + " = " + got + (got == want ? "" : ", due is " + want));
         wrong += got == want ? 0 : 1;
     }
@@ -58,17 +68,20 @@ public final class ModelTest {
     }
 
     private void run(int run) {
-        int calls = run % 5 == 0 ? 512 : 160;
         if (run % 7 == 0) {
             for (int i = 0; i < 166; i++) {
                 due("day(60)", x.day(60), m.day(60));
             }
         }
-        for (int i = 0; i < calls && wrong == 0; i++) {
+        for (int i = 1; used + MOST_AT_ONCE <= MOST_CALLS && wrong == 0; i++) {
             call(run);
-            if (i % 16 == 0) {
+            if (i % 40 == 0 && used + LOOK + MOST_AT_ONCE <= MOST_CALLS) {
                 state();
             }
+        }
+        state();
+        if (used > MOST_CALLS) {
+            due("calls of run " + run, used, MOST_CALLS);
         }
     }
 
@@ -222,10 +235,10 @@ public final class ModelTest {
             due("ledger(" + what + ")", x.ledger(what), m.ledger(what));
             due("fault(" + what + ")", x.fault(what), m.fault(what));
         }
+        int salt = draws.nextInt(4);
         for (int i = -2; i < 27; i++) {
-            for (int what = 0; what < 4; what++) {
-                due("book(" + i + ", " + what + ")", x.book(i, what), m.book(i, what));
-            }
+            int what = i + salt & 3;
+            due("book(" + i + ", " + what + ")", x.book(i, what), m.book(i, what));
         }
         due("oldest()", x.oldest(), m.oldest());
         due("fullest()", x.fullest(), m.fullest());

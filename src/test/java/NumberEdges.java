@@ -301,8 +301,10 @@ final class NumberEdges {
         Edges.due("spoons(1)", x.spoons(1), 0);
         Edges.due("spoons(2)", x.spoons(2), 1);
         Edges.due("spoons(32)", x.spoons(32), 5);
-        Edges.due("spoons(39)", x.spoons(39), Brute.spoons()[39]);
-        Edges.due("spoons(40)", x.spoons(40), 6);
+        int[] due = Brute.spoons();
+        for (int n = 1; n <= 40; n++) {
+            Edges.due("spoons(" + n + ")", x.spoons(n), due[n]);
+        }
         Edges.due("spoons(41)", x.spoons(41), -1);
         Edges.due("spoons(-1)", x.spoons(-1), -1);
         for (int far : FAR) {
@@ -363,7 +365,8 @@ final class NumberEdges {
         LeavenHouse x = new LeavenHouse();
         Edges.promise(29, "ALL MADE: by how many joinings (i NONE), the i-th number of the lowest. -2: there is none such, and for others");
         int[][] rows = {{}, {1}, {1, 1, 1, 1}, {2}, {40}, {40, 39}, {40, 39, 38, 37}, {7, 7},
-            {5, 7, 9, 11}, {1, 40, 1, 23}, {31, 33, 35, 37}, {29, 31, 37, 39}};
+            {5, 7, 9, 11}, {7, 5}, {7}, {}, {7, 5, 9}, {7, 5}, {7, 4}, {9, 4}, {1, 40, 1, 23},
+            {31, 33, 35, 37}, {29, 31, 37, 39}};
         for (int[] row : rows) {
             x.order(-1);
             for (int n : row) {

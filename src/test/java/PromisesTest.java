@@ -650,25 +650,31 @@ public final class PromisesTest {
         due("none", x.book(25, 0), -2);
     }
 
-    private static void foretells() {
-        promise = 17;
+    private static LeavenHouse fourCrocks() {
         LeavenHouse x = new LeavenHouse();
         x.join(0, 0);
         x.join(1, 1);
         x.join(2, 2);
-        int[][] then = new int[61][8];
+        return x;
+    }
+
+    private static void foretells() {
+        promise = 17;
+        LeavenHouse x = fourCrocks();
+        int[][] then = new int[61][5];
         for (int n = 1; n <= 60; n++) {
-            for (int c = 0; c < 8; c++) {
+            for (int c = 0; c < 5; c++) {
                 then[n][c] = x.foretold(n, c);
             }
         }
         due("nothing is done", x.is(0), 0);
         due("nothing is drawn", x.is(1), 433);
         due("no step", x.about(2), 3);
+        LeavenHouse passing = fourCrocks();
         for (int n = 1; n <= 60; n++) {
-            x.day(1);
-            for (int c = 0; c < 8; c++) {
-                due("foretold " + n + " " + c, then[n][c], x.of(c, 0));
+            passing.day(1);
+            for (int c = 0; c < 5; c++) {
+                due("foretold " + n + " " + c, then[n][c], passing.of(c, 0));
             }
         }
         due("foretold", x.foretold(0, 0), -1);

@@ -21,6 +21,7 @@ final class TextEdges {
         secondLaws();
         namesOfClauses();
         faultsInTheirOrder();
+        faultsAtEveryOne();
         leastOfOneToken();
         faultsAtTheEnd();
         sumsFromTheLeft();
@@ -29,6 +30,7 @@ final class TextEdges {
         crocksOfAnyNumber();
         asks();
         lawsToTheirMost();
+        textsReadAnew();
         rulesOnlyIfTold();
         playsAsByHand();
         playsTillOneCantBe();
@@ -420,6 +422,39 @@ final class TextEdges {
         faulty("\n\n  tires\n 1 +\n\n fund ;", 5, 17);
     }
 
+    /** At each place where a ONE can stand, what can't be one by faults 1, 2, 3 and 5. */
+    private static void faultsAtEveryOne() {
+        Edges.term("FAULTS, the first as TOKENS are come to, at the TOKEN's first byte");
+        String sum = "1+1-1*1/1*(1+1)-double 1+crock 1--1+if 1<1 and 1<=1 and 1>1 or 1>=1 and 1=1 or not 1#1"
+                + " then 1+1 else 1*1 end";
+        for (String law : new String[] {"tires ", "price "}) {
+            good(law + sum + ";");
+            for (int at = 0; at < sum.length(); at++) {
+                if (sum.charAt(at) != '1') {
+                    continue;
+                }
+                String ahead = law + sum.substring(0, at);
+                String behind = sum.substring(at + 1) + ";";
+                faulty(ahead + "10000" + behind, 2, ahead.length());
+                faulty(ahead + (law.equals("tires ") ? "fund" : "odd") + behind, 5, ahead.length());
+                faulty(ahead + "then" + behind, 1, ahead.length());
+                faulty(ahead + "!" + behind, 1, ahead.length());
+                faulty(ahead + "price" + behind, 1, ahead.length());
+                good(ahead + "((((((1))))))" + behind);
+                faulty(ahead + "(((((((((1)))))))))" + behind, 3, ahead.length() + 8 - around(sum, at));
+            }
+        }
+    }
+
+    /** How many are open around the place in that sum, which has no two around one another but if. */
+    private static int around(String sum, int at) {
+        String ahead = sum.substring(0, at);
+        boolean one = ahead.endsWith("double ") || ahead.endsWith("crock ") || ahead.endsWith("--");
+        boolean brackets = ahead.lastIndexOf('(') > ahead.lastIndexOf(')');
+        boolean asked = ahead.contains("not ") && !ahead.contains("then");
+        return (one || brackets ? 1 : 0) + (ahead.contains("if ") ? 1 : 0) + (asked ? 1 : 0);
+    }
+
     private static void leastOfOneToken() {
         Edges.term("of one the least: 1 it can't stand there, or is none");
         faulty("tires 1 10000;", 1, 8);
@@ -462,6 +497,26 @@ final class TextEdges {
         }
         faulty("pour 7;pour", 1, 11);
         faulty("join 0 and", 1, 10);
+        for (String sign : new String[] {"<", "<=", ">", ">=", "=", "#"}) {
+            faulty("price if 1" + sign, 1, 10 + sign.length());
+        }
+        wordsAtTheEndOf300();
+    }
+
+    private static void wordsAtTheEndOf300() {
+        String[] words = {"tires", "price", "join", "pour", "bake", "make", "day", "number", "pounds", "age",
+            "full", "odd", "fund", "double", "crock", "if", "then", "else", "end", "and", "or", "not"};
+        for (String word : words) {
+            for (int cut = 1; cut < word.length(); cut++) {
+                faulty(" ".repeat(300 - cut) + word.substring(0, cut), 1, 300 - cut);
+            }
+            // The rest of the word lies behind the end of the tape.
+            LeavenHouse x = new LeavenHouse();
+            Edges.tape(x, word);
+            x.end(word.length() - 1);
+            Edges.due("text()", x.text(), -1);
+            Edges.due("fault(1)", x.fault(1), 0);
+        }
     }
 
     private static LeavenHouse priced(String sum) {
@@ -622,6 +677,31 @@ final class TextEdges {
 
     private static String factors(int n) {
         return n == 1000000 ? "1000*1000" : n == 10000 ? "100*100" : "" + n;
+    }
+
+    /** What a text with a fault, or one that is gone, had told is no part of the next. */
+    private static void textsReadAnew() {
+        Edges.promise(4, "The tape (empty then) is a TEXT: its number. NONE: it has a FAULT");
+        LeavenHouse x = new LeavenHouse();
+        for (int i = 0; i < 5; i++) {
+            Edges.due("a FAULT", Edges.read(x, "tires " + "1+".repeat(60) + "1;price " + "1+".repeat(60) + "1;x"), -1);
+            Edges.due("at x", x.fault(1), 256);
+        }
+        Edges.due("neither law", Edges.read(x, "pour 7;"), 0);
+        Edges.due("played(0)", x.played(0), 0);
+        x.by(0);
+        Edges.due("tires without", x.of(0, 2), 2);
+        Edges.due("price without", x.of(0, 3), 1);
+        x.back();
+        Edges.due("both laws", Edges.read(x, "price " + "1+".repeat(70) + "1;tires " + "1*".repeat(60) + "7;"), 0);
+        x.by(0);
+        Edges.due("tires", x.of(0, 2), 7);
+        Edges.due("price", x.of(0, 3), 71);
+        x.back();
+        Edges.due("a FAULT", Edges.read(x, "pour 0;".repeat(24) + "x"), -1);
+        Edges.due("24 anew", Edges.read(x, "day 1;".repeat(24)), 0);
+        Edges.due("played(0)", x.played(0), -1);
+        Edges.due("DAY", x.is(0), 24);
     }
 
     private static void rulesOnlyIfTold() {
