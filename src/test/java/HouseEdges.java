@@ -30,7 +30,7 @@ final class HouseEdges {
         yearsThatDoNothing();
         yearsAtTheLastDay();
         imageOfAll();
-        imageOfAFullBook();
+        fullBooksComeAgain();
         imageWithoutTapeAndFault();
     }
 
@@ -490,46 +490,53 @@ final class HouseEdges {
 
     private static void stepsTakenBack() {
         Edges.term("(POUNDS, AGES, FUND, DAY, X, BOOK are as ahead of it)");
-        LeavenHouse x = Edges.ruled("tires age+3;price 30;");
-        x.join(0, 0);
-        x.join(1, 1);
-        x.join(1, 2);
-        List<List<Long>> ahead = new ArrayList<>();
-        for (int i = 0; i < 6; i++) {
-            ahead.add(Edges.house(x));
-            switch (i) {
-                case 0:
-                    x.join(3, 3);
-                    break;
-                case 1:
-                    x.pour(1);
-                    break;
-                case 2:
-                    x.bake(2);
-                    break;
-                case 3:
-                    x.day(1);
-                    break;
-                case 4:
-                    x.years(77, 40);
-                    break;
-                default:
-                    x.day(1);
-                    break;
+        for (int last = 0; last < 6; last++) {
+            LeavenHouse x = Edges.ruled("tires age+3;price 30;");
+            x.join(0, 0);
+            x.join(1, 1);
+            x.join(1, 2);
+            for (int i = 0; i < last; i++) {
+                oneOfEach(x, i);
             }
+            List<Long> ahead = Edges.house(x);
+            oneOfEach(x, last);
+            Edges.due("a step", x.about(2), last + 4);
+            Edges.due("undo()", x.undo(), last + 3);
+            Edges.like("ahead of step " + last, Edges.house(x), ahead);
         }
-        x.order(5);
-        x.tell(2);
-        x.said(1, 1);
-        x.by(-1);
-        for (int i = 5; i >= 0; i--) {
-            Edges.due("undo()", x.undo(), i + 3);
-            Edges.like("ahead of step " + i, Edges.house(x), ahead.get(i));
+        LeavenHouse y = Edges.ruled("tires 3;");
+        y.day(1);
+        y.order(5);
+        y.tell(2);
+        y.said(1, 1);
+        y.by(-1);
+        Edges.read(y, "pour 0;");
+        y.undo();
+        Edges.due("TEXTS stay", y.about(0), 2);
+        Edges.due("THE TEXT stays", y.about(1), -1);
+        Edges.due("ORDERS stay", y.about(3), 1);
+        Edges.due("what was told stays", y.about(4), 2);
+        Edges.due("SAID stays", y.about(5), 1);
+    }
+
+    private static void oneOfEach(LeavenHouse x, int kind) {
+        switch (kind) {
+            case 0:
+                x.join(3, 3);
+                break;
+            case 1:
+                x.pour(1);
+                break;
+            case 2:
+                x.bake(2);
+                break;
+            case 4:
+                x.years(77, 40);
+                break;
+            default:
+                x.day(1);
+                break;
         }
-        Edges.due("THE TEXT stays", x.about(1), -1);
-        Edges.due("ORDERS stay", x.about(3), 1);
-        Edges.due("what was told stays", x.about(4), 2);
-        Edges.due("SAID stays", x.about(5), 1);
     }
 
     private static void yearsByDraws() {
@@ -664,14 +671,10 @@ final class HouseEdges {
         Edges.due("crocks", x.is(3), 1);
     }
 
-    private static void imageOfAFullBook() {
-        Edges.term("BACK: all is so again");
-        LeavenHouse x = Edges.ruled("tires 0;");
-        List<List<Long>> ahead = new ArrayList<>();
-        for (int i = 0; i < 28; i++) {
-            if (i >= 23) {
-                ahead.add(Edges.house(x));
-            }
+    /** So many lines, each unlike the one ahead of it. */
+    private static LeavenHouse written(int lines) {
+        LeavenHouse x = new LeavenHouse();
+        for (int i = 0; i < lines; i++) {
             switch (i % 4) {
                 case 0:
                     x.join(0, 0);
@@ -679,23 +682,27 @@ final class HouseEdges {
                 case 1:
                     x.join(0, 1);
                     break;
-                case 2:
-                    x.pour(1);
-                    break;
                 default:
-                    x.pour(2);
+                    x.pour(i % 4 - 1);
                     break;
             }
         }
-        x.image();
-        List<Long> kept = Edges.house(x);
-        x.bake(0);
-        x.back();
-        Edges.like("the book is as it was", Edges.house(x), kept);
-        Edges.term("(POUNDS, AGES, FUND, DAY, X, BOOK are as ahead of it)");
-        for (int i = 4; i >= 0; i--) {
+        return x;
+    }
+
+    private static void fullBooksComeAgain() {
+        for (int lines = 24; lines <= 29; lines++) {
+            LeavenHouse x = written(lines);
+            List<Long> kept = Edges.house(x);
+            Edges.term("(POUNDS, AGES, FUND, DAY, X, BOOK are as ahead of it)");
+            x.bake(0);
             x.undo();
-            Edges.like("the book is as ahead", Edges.house(x), ahead.get(i));
+            Edges.like("the book is as ahead", Edges.house(x), kept);
+            Edges.term("BACK: all is so again");
+            x.image();
+            x.bake(0);
+            x.back();
+            Edges.like("the book is as it was", Edges.house(x), kept);
         }
     }
 
