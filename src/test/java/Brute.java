@@ -50,6 +50,42 @@ final class Brute {
         }
     }
 
+    /** The lowest shortest chain in which these numbers (each above the one ahead) are. */
+    static int[] lowestOf(int... wanted) {
+        for (int joinings = 0;; joinings++) {
+            int[] chain = new int[joinings + 1];
+            chain[0] = 1;
+            if (goesOn(chain, 0, wanted, 0)) {
+                return chain;
+            }
+        }
+    }
+
+    private static boolean goesOn(int[] chain, int k, int[] wanted, int met) {
+        if (k == chain.length - 1 || met == wanted.length) {
+            return k == chain.length - 1 && met == wanted.length;
+        }
+        int left = chain.length - 1 - k;
+        if ((long) chain[k] << left < wanted[wanted.length - 1] || left < wanted.length - met) {
+            return false;
+        }
+        boolean[] sums = new boolean[wanted[met] + 1];
+        for (int a = 0; a <= k; a++) {
+            for (int b = 0; b <= a && chain[a] + chain[b] < sums.length; b++) {
+                sums[chain[a] + chain[b]] = true;
+            }
+        }
+        for (int v = chain[k] + 1; v < sums.length; v++) {
+            if (sums[v]) {
+                chain[k + 1] = v;
+                if (goesOn(chain, k + 1, wanted, v == wanted[met] ? met + 1 : met)) {
+                    return true;
+                }
+            }
+        }
+        return false;
+    }
+
     static TreeSet<Integer> sums(List<Integer> chain) {
         TreeSet<Integer> sums = new TreeSet<>();
         for (int a : chain) {

@@ -34,6 +34,7 @@ public final class NumbersTest {
         costs();
         crocksAndSpoons();
         orders();
+        allOrders();
         reached();
         games();
         System.out.println(wrong == 0 ? "numbers: all as due" : wrong + " wrong");
@@ -147,7 +148,7 @@ public final class NumbersTest {
     private static void orders() {
         Random draws = new Random(11);
         LeavenHouse x = new LeavenHouse();
-        for (int round = 0; round < 1500; round++) {
+        for (int round = 0; round < 400; round++) {
             if (round % 20 == 0) {
                 x = new LeavenHouse();
             }
@@ -168,6 +169,38 @@ public final class NumbersTest {
             due("order", x.order(-1), 0);
             due("made", x.made(0), 1);
             due("made", x.made(-1), 0);
+        }
+    }
+
+    /** All sets of up to four orders, told from the lowest or from the highest on. */
+    private static void allOrders() {
+        for (int a = 2; a <= 40; a++) {
+            ordered(a);
+            for (int b = a + 1; b <= 40; b++) {
+                ordered(a, b);
+                for (int c = b + 1; c <= 40; c++) {
+                    ordered(a, b, c);
+                    for (int d = c + 1; d <= 40; d++) {
+                        ordered(a, b, c, d);
+                    }
+                }
+            }
+        }
+    }
+
+    private static void ordered(int... wanted) {
+        if (used > MOST_CALLS - 30) {
+            used = MOST_CALLS;
+        }
+        x().order(-1);
+        boolean up = wanted[0] % 2 == 0;
+        for (int i = 0; i < wanted.length; i++) {
+            x().order(wanted[up ? i : wanted.length - 1 - i]);
+        }
+        int[] want = Brute.lowestOf(wanted);
+        due("made of all", x().made(-1), want.length - 1);
+        for (int i = 0; i <= want.length; i++) {
+            due("made of all, " + i, x().made(i), i < want.length ? want[i] : -2);
         }
     }
 
