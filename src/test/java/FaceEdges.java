@@ -36,6 +36,8 @@ final class FaceEdges {
     }
 
     private static void newObject() {
+        Edges.term("`NONE = -1`: None");
+        Edges.due("NONE", LeavenHouse.NONE, -1);
         Edges.promise(1, "One pound in the first crock; THE IMAGE is this");
         LeavenHouse x = new LeavenHouse();
         List<Long> first = Edges.all(x);

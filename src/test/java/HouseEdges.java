@@ -171,9 +171,11 @@ final class HouseEdges {
         Edges.due("join(1, 0)", x.join(1, 0), -1);
         Edges.due("join(1, 1)", x.join(1, 1), -1);
         Edges.due("join(0, 0)", x.join(0, 0), 1);
+        Edges.term("as many POUNDS as both together");
         Edges.due("of(1, 0)", x.of(1, 0), 2);
         Edges.due("join(0, 1)", x.join(0, 1), 2);
         Edges.due("of(2, 0)", x.of(2, 0), 3);
+        Edges.term("JOINED: of two CROCKS with any (one twice, too)");
         x.pour(1);
         Edges.due("join(1, 2)", x.join(1, 2), -1);
         Edges.due("join(2, 1)", x.join(2, 1), -1);
@@ -257,8 +259,10 @@ final class HouseEdges {
         Edges.due("FUND", x.is(2), 2025);
         Edges.due("the most", x.bake(0), 9999);
         Edges.due("FUND", x.is(2), 12024);
+        Edges.term("it brings all the same); POUNDS, AGE 0");
         Edges.due("POUNDS", x.of(0, 0), 0);
         Edges.due("AGE", x.of(0, 1), 0);
+        Edges.term("FUND is more by price (as it is ahead;");
         LeavenHouse y = Edges.ruled("price fund+5;");
         y.join(0, 0);
         Edges.due("bake(0)", y.bake(0), 5);
@@ -608,6 +612,10 @@ final class HouseEdges {
         // With no dough a day draws nothing: X is drawn 40 times.
         y.years(1234, 40);
         Edges.due("X", y.is(1), Edges.drawn(1234 * 2 + 433, 40));
+        Edges.term("x is X, X anew (as in a draw)");
+        y.undo();
+        y.years(1234, 1);
+        Edges.due("X", y.is(1), Edges.drawn(1234 * 2 + 433));
         Edges.term("It is one STEP: DAY");
         Edges.due("a step", y.about(2), 2);
         Edges.due("undo()", y.undo(), 1);

@@ -101,7 +101,11 @@ final class NumberEdges {
             Edges.due("few(1, " + crocks + ")", x.few(1, crocks), 0);
         }
         Edges.due("spoons(1)", x.spoons(1), 0);
-        Edges.promise(18, "NONE for others (1 .. 120)");
+        Edges.term("A CHAIN of n: numbers from 1 on, each more than the one ahead of it and the sum of two ahead of it (of one and itself, too), the last n; joinings: how many are behind 1");
+        Edges.due("of one and itself", x.fewest(2), 1);
+        Edges.due("of two", x.fewest(3), 2);
+        Edges.due("no more than twice", x.fewest(65), 7);
+        Edges.promise(18, "FEWEST. NONE for others (1 .. 120)");
         for (int n : new int[] {1, 2, 3, 63, 64, 65, 119, 120}) {
             Edges.due("fewest(" + n + ")", x.fewest(n), joinings(n));
         }
@@ -135,8 +139,11 @@ final class NumberEdges {
     }
 
     private static void howManyChains() {
-        Edges.promise(20, "CHAINS: how many. NONE for others (likewise)");
+        Edges.term("CHAINS: how many there are with so few");
         LeavenHouse x = new LeavenHouse();
+        // 1 2 3 5 and 1 2 4 5; a longer one (1 2 3 4 5) doesn't count.
+        Edges.due("chains(5)", x.chains(5), 2);
+        Edges.promise(20, "CHAINS: how many. NONE for others (likewise)");
         for (int n : new int[] {1, 2, 3, 4, 5, 7, 64, 71, 119, 120}) {
             Edges.due("chains(" + n + ")", x.chains(n), Brute.shortest(List.of(n)).size());
         }
@@ -276,6 +283,7 @@ final class NumberEdges {
                         told ? due[crocks][n] : -1);
             }
         }
+        Edges.term("one without any, or one whose dough is poured away as it is done (maybe one of the two joined; one joining each): the fewest joinings till n stands there; no way");
         // One crock only doubles: 2, 4 .. 32, and no way to others.
         Edges.due("few(32, 1)", x.few(32, 1), 5);
         Edges.due("few(31, 1)", x.few(31, 1), -1);
@@ -296,6 +304,8 @@ final class NumberEdges {
         // 31 is 32 less 1, by one less than with joinings alone.
         Edges.due("spoons(31)", x.spoons(31), 6);
         Edges.due("fewest(31)", x.fewest(31), 7);
+        Edges.term("(of one and itself, too): the fewest further ones till n is there");
+        Edges.due("of one and itself", x.spoons(2), 1);
         Edges.promise(26, "WITH SPOONS. NONE for others (1 .. 40)");
         Edges.due("spoons(0)", x.spoons(0), -1);
         Edges.due("spoons(1)", x.spoons(1), 0);
@@ -361,8 +371,15 @@ final class NumberEdges {
     }
 
     private static void allMade() {
-        Edges.term("the lowest such (by the second number, ..): the i-th (without ORDERS 1 alone)");
+        Edges.term("ALL MADE: the fewest joinings by a CHAIN (its last the greatest ORDER) in which all of them are");
         LeavenHouse x = new LeavenHouse();
+        x.order(8);
+        x.order(7);
+        // 1 2 3 4 7 8: 8 alone would take three.
+        Edges.due("made(-1)", x.made(-1), 5);
+        Edges.due("the last is the greatest", x.made(5), 8);
+        Edges.due("the lowest", x.made(2), 3);
+        Edges.term("the lowest such (by the second number, ..): the i-th (without ORDERS 1 alone)");
         Edges.promise(29, "ALL MADE: by how many joinings (i NONE), the i-th number of the lowest. -2: there is none such, and for others");
         int[][] rows = {{}, {1}, {1, 1, 1, 1}, {2}, {40}, {40, 39}, {40, 39, 38, 37}, {7, 7},
             {5, 7, 9, 11}, {7, 5}, {7}, {}, {7, 5, 9}, {7, 5}, {7, 4}, {9, 4}, {1, 40, 1, 23},
@@ -400,9 +417,11 @@ final class NumberEdges {
             Edges.due("the highest", x.reached(j, due.size() - 1), 1 << j);
             Edges.due("behind the last", x.reached(j, due.size()), -1);
             Edges.due("ahead of the first", x.reached(j, -1), -1);
+            Edges.term("What is REACHED is told from the lowest on");
             for (int i = 0; i < due.size(); i++) {
                 Edges.due("reached(" + j + ", " + i + ")", x.reached(j, i), due.get(i));
             }
+            Edges.promise(31, "The i-th number REACHED. NONE: there is none such, and for others");
             for (int far : FAR) {
                 Edges.due("reached(" + j + ", " + far + ")", x.reached(j, far), -1);
             }
@@ -543,8 +562,14 @@ final class NumberEdges {
     }
 
     private static void games() {
-        Edges.term("who adds n wins: whether the one who begins wins; A PLAY by which it wins: the lowest");
+        Edges.term("A GAME to n: at first 1; by turns each adds a number that is the sum of two there (of one and itself, too), more than all there, n at most");
         LeavenHouse x = new LeavenHouse();
+        // To 2: 2 wins. To 3 and 4: behind 2 the other one adds it. To 5: 2, then 3 or 4, then 5.
+        int[] wins = {1, 0, 0, 1};
+        for (int n = 2; n <= 5; n++) {
+            Edges.due("game(" + n + ")", x.game(n), wins[n - 2]);
+        }
+        Edges.term("who adds n wins: whether the one who begins wins; A PLAY by which it wins: the lowest");
         for (int n = 2; n <= 12; n++) {
             int due = Brute.play(List.of(1), n);
             Edges.promise(38, "A GAME: 1 the one who begins wins, 0 the other one. NONE for others (2 .. 12)");

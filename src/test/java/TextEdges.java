@@ -541,11 +541,16 @@ final class TextEdges {
         worth("-2+5", 3);
         worth("0-2*-3", 6);
         worth("9--1", 10);
+        Edges.term("double ONE (twice as much)");
+        worth("double 0", 0);
+        worth("7+double-2", 3);
+        worth("double 4999", 9998);
         worth("double 3*5", 30);
         worth("double 3+5", 11);
         worth("double(3+5)", 16);
         worth("double double double 1", 8);
         worth("5-double-2", 9);
+        Edges.term("if EITHER then SUM else SUM end");
         worth("if 1=1 then 2 else 3 end*5", 10);
         worth("5*if 1=2 then 2 else 3 end+1", 16);
     }
@@ -643,6 +648,11 @@ final class TextEdges {
                 asked(a + "#" + b, a != b);
             }
         }
+        Edges.term("or and and look at both sides always, of if just the SUM that is chosen is asked");
+        asked("1=1 or 1/0=1", true);
+        asked("1=2 and 1/0=1", false);
+        worth("if 1=1 then 4 else 1/0 end", 4);
+        worth("if 1=2 then 1/0 else 4 end", 4);
         asked("1+1=4/2", true);
         asked("-1000*1001=-1000*1000", true);
     }
@@ -818,6 +828,25 @@ final class TextEdges {
         Edges.due("4", y.of(2, 0), 4);
         Edges.due("8", y.of(4, 0), 8);
         Edges.due("STEPS", y.about(2), 6);
+        makesOfOneTwice();
+    }
+
+    private static void makesOfOneTwice() {
+        Edges.term("of the two of the lowest CROCKS that can (the lowest one, then the lowest other, maybe itself)");
+        LeavenHouse x = making(2);
+        Edges.due("1 twice", x.played(0), -1);
+        Edges.due("2", x.of(1, 0), 2);
+        LeavenHouse y = making(3);
+        y.join(0, 0);
+        y.pour(0);
+        y.join(1, 1);
+        // 4 and 2 don't make 3.
+        Edges.due("no two", y.played(0), 0);
+        y.back();
+        Edges.read(y, "make 3;");
+        y.join(0, 0);
+        Edges.due("1 and 2", y.played(0), -1);
+        Edges.due("3", y.of(2, 0), 3);
     }
 
     private static void makesWithout() {
