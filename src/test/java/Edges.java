@@ -3,9 +3,12 @@ import java.io.UncheckedIOException;
 import java.nio.file.Files;
 import java.nio.file.Path;
 import java.util.ArrayList;
+import java.util.Arrays;
 import java.util.List;
 import java.util.Set;
 import java.util.TreeSet;
+import java.util.regex.Matcher;
+import java.util.regex.Pattern;
 
 /**
  * What the edge tests share: the words of the document that a test holds the class to, calls with
@@ -19,7 +22,11 @@ final class Edges {
 
     private static final int MOST_TOLD = 60;
     private static final String DOC = document();
+    /** What stands between the sentences: marks of the parts, headings with their signatures. */
+    private static final Pattern FRAME = Pattern.compile(
+            "```text|```|==== [IV]+\\.|The constants:|## Promise \\d+: [A-Za-z ]+ `[^`]*`:");
     private static final Set<Integer> PROMISES = new TreeSet<>();
+    private static final boolean[] HELD = new boolean[DOC.length()];
     private static String sentence = "";
     private static int sentences = 0;
     private static int calls = 0;
@@ -44,20 +51,42 @@ final class Edges {
     static void promise(int number, String words) {
         PROMISES.add(number);
         int from = DOC.indexOf("## Promise " + number + ":");
-        int next = DOC.indexOf("## ", from + 3);
-        hold("Promise " + number, words, DOC.substring(from, next));
+        hold("Promise " + number, words, from, DOC.indexOf("## ", from + 3));
     }
 
     /** From here on: words that stand ahead of the promises. */
     static void term(String words) {
-        hold("Terms", words, DOC.substring(0, DOC.indexOf("## Promise 1:")));
+        hold("Terms", words, 0, DOC.indexOf("## Promise 1:"));
     }
 
-    private static void hold(String where, String words, String there) {
+    private static void hold(String where, String words, int from, int to) {
         sentence = where + ", \"" + words + "\"";
         sentences++;
-        if (!there.contains(plain(words))) {
+        int at = DOC.indexOf(plain(words), from);
+        if (at < 0 || at + plain(words).length() > to) {
             tell("isn't in the document");
+            return;
+        }
+        Arrays.fill(HELD, at, at + plain(words).length(), true);
+    }
+
+    /** From "Terms" to "Not promised" each word is one that some test holds the class to. */
+    private static void everyWordIsHeld() {
+        sentence = "The document";
+        int from = DOC.indexOf("## Terms") + "## Terms".length();
+        int to = DOC.indexOf("## Not promised");
+        for (Matcher frame = FRAME.matcher(DOC); frame.find();) {
+            Arrays.fill(HELD, frame.start(), frame.end(), true);
+        }
+        for (int at = from; at < to; at++) {
+            int end = at;
+            while (end < to && !HELD[end]) {
+                end++;
+            }
+            if (DOC.substring(at, end).matches(".*\\w.*")) {
+                tell("no test holds the class to \"" + DOC.substring(at, end).trim() + "\"");
+            }
+            at = end;
         }
     }
 
@@ -92,6 +121,7 @@ final class Edges {
                 tell("promise " + i + " has no edge test");
             }
         }
+        everyWordIsHeld();
         System.out.println(wrong == 0 ? "edges: " + sentences + " sentences, " + calls
                 + " answers, all as due" : wrong + " wrong");
         System.exit(wrong == 0 ? 0 : 1);

@@ -414,7 +414,7 @@ final class FaceEdges {
     }
 
     private static void said() {
-        Edges.term("(told: SAID, 8 at most: a CROCK, tires 0 .. 10)");
+        Edges.term("WHOSE LAW (told: SAID, 8 at most: a CROCK, tires 0 .. 10)");
         Edges.promise(40, "SAID: how many there are (crock NONE: none any more). -2 for others (0 .. 10), or if there are 8");
         LeavenHouse x = new LeavenHouse();
         for (int other : new int[] {8, Edges.MIN, Edges.MAX, -2}) {

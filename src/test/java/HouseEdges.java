@@ -250,7 +250,7 @@ final class HouseEdges {
     }
 
     private static void bakedAtThePriceAhead() {
-        Edges.term("FUND is more by price (as it is ahead;");
+        Edges.term("BAKED: FUND is more by price (as it is ahead;");
         LeavenHouse x = Edges.ruled("tires 0;price fund*100+full*10+pounds+age+crock number*1000;");
         x.join(0, 0);
         x.day(3);
@@ -591,7 +591,7 @@ final class HouseEdges {
     }
 
     private static void yearsThatDoNothing() {
-        Edges.term("X is SEED (0 .. 9999) * 2 + 433; n times (1 .. 40)");
+        Edges.term("YEARS by a SEED: X is SEED (0 .. 9999) * 2 + 433; n times (1 .. 40)");
         LeavenHouse x = new LeavenHouse();
         Edges.due("years(-1, 1)", x.years(-1, 1), -1);
         Edges.due("years(10000, 1)", x.years(10000, 1), -1);

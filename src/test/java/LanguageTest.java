@@ -30,18 +30,22 @@ public final class LanguageTest {
         System.exit(wrong == 0 ? 0 : 1);
     }
 
-    private static void face() {
-        String due = "int feed(int,int,int,int,int) int end(int) int text() int fault(int) boolean by(int) "
-                + "int join(int,int) boolean pour(int) int bake(int) int day(int) int played(int) "
-                + "int years(int,int) int undo() int of(int,int) int is(int) int book(int,int) "
-                + "int foretold(int,int) int fewest(int) int chain(int,int) long chains(int) "
-                + "int halves(int) int parts(int) int hardest(int,int) int cost(int,int,int) "
-                + "int few(int,int) int spoons(int) int both(int,int) int order(int) int made(int) "
-                + "int reach(int) int reached(int,int) int first(int) int tell(int) int wrong() "
-                + "int needless() boolean star() int steps(boolean) int game(int) int play(int) "
-                + "int said(int,int) int whose() int oldest() int fullest() int can(int) "
-                + "int ledger(int) int image() int back() int about(int)";
-        Set<String> want = new TreeSet<>(Arrays.asList(due.split(" (?=int |long |boolean )")));
+    /** The methods of "The public face", each as its kind, its name and the kinds it takes. */
+    private static Set<String> faceOfDocument() throws Exception {
+        String doc = Files.readString(Path.of("../shared/DOC.md"));
+        int from = doc.indexOf("## The public face");
+        String face = doc.substring(from, doc.indexOf("## Terms", from));
+        Set<String> methods = new TreeSet<>();
+        Matcher m = Pattern.compile("public (\\w+ \\w+\\()([^)]*)\\);").matcher(face);
+        while (m.find()) {
+            methods.add(m.group(1) + m.group(2).replaceAll(" \\w+(,|$)", "$1").replace(", ", ",") + ")");
+        }
+        check(methods.size() == 47, "the document's face: " + methods);
+        return methods;
+    }
+
+    private static void face() throws Exception {
+        Set<String> want = faceOfDocument();
         Set<String> got = new TreeSet<>();
         for (Method m : LeavenHouse.class.getDeclaredMethods()) {
             if (Modifier.isPublic(m.getModifiers())) {

@@ -263,8 +263,11 @@ final class NumberEdges {
         Edges.due("cost(3, 9, 1)", x.cost(3, 9, 1), 10);
         Edges.due("cost(4, 9, 1)", x.cost(4, 9, 1), 11);
         Edges.due("cost(4, 1, 9)", x.cost(4, 1, 9), 2);
-        // 1 2 3 4 8 would be 9 + 1 + 1 + 9, with all from 1 to 8: 9 and six sums.
-        Edges.due("cost(8, 9, 1)", x.cost(8, 9, 1), Brute.cost(8, 9, 1));
+        Edges.term("A COST: of all CHAINS the least together");
+        // 1 2 4 8 would be 9 for each; 1 2 3 5 8 has one joining more.
+        Edges.due("cost(8, 9, 1)", x.cost(8, 9, 1), 12);
+        Edges.due("cost(8, 1, 9)", x.cost(8, 1, 9), 3);
+        Edges.due("cost(8, 3, 3)", x.cost(8, 3, 3), 9);
         Edges.due("cost(40, 9, 1)", x.cost(40, 9, 1), Brute.cost(40, 9, 1));
         Edges.due("cost(40, 1, 9)", x.cost(40, 1, 9), 14);
         Edges.due("cost(32, 1, 9)", x.cost(32, 1, 9), 5);
@@ -272,7 +275,7 @@ final class NumberEdges {
     }
 
     private static void fewCrocks() {
-        Edges.term("BY FEW CROCKS: so many in all, 1 in one at first");
+        Edges.term("BY FEW CROCKS: so many in all, 1 in one at first: each joining needs one to stand in");
         LeavenHouse x = new LeavenHouse();
         int[][] due = {{}, Brute.few(1), Brute.few(2), Brute.few(3)};
         Edges.promise(25, "BY FEW CROCKS. NONE: no way, and for others (1 .. 40; 1 .. 3)");

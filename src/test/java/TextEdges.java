@@ -15,6 +15,7 @@ final class TextEdges {
         numbersTo9999();
         clausesTo24();
         everyTokenMissing();
+        sumsOfAllTokens();
         numbersOfClauses();
         openTo8();
         openAroundOneAnother();
@@ -271,6 +272,52 @@ final class TextEdges {
         faulty("price if 1=2 or then 3 else 4 end;", 1, 16);
         faulty("price if 1=2 and and 1=2 then 3 else 4 end;", 1, 17);
         faulty("price not 1 = 2;", 1, 6);
+    }
+
+    private static void sumsOfAllTokens() {
+        Edges.term("SUM: PRODUCT {+ or - PRODUCT}. PRODUCT: ONE {* or / ONE}. ONE: NUMBER, NAME, ( SUM ), - ONE, double ONE");
+        LeavenHouse x = new LeavenHouse();
+        String[] tokens = {"7", "pounds", "(", ")", "-", "+", "*", "/", "double", "crock", ";"};
+        int calls = 0;
+        for (int row = 0; row < 11 * 11 * 11 * 11; row++) {
+            if (calls > 490) {
+                x = new LeavenHouse();
+                calls = 0;
+            }
+            String[] sum = {tokens[row % 11], tokens[row / 11 % 11], tokens[row / 121 % 11], tokens[row / 1331]};
+            String t = "price " + String.join(" ", sum);
+            int fault = firstThatCantStand(sum, t);
+            Edges.due("text() of " + t, Edges.read(x, t), fault == -1 ? 0 : -1);
+            Edges.due("fault(0) of " + t, x.fault(0), fault == -1 ? 0 : 1);
+            Edges.due("fault(1) of " + t, x.fault(1), fault);
+            x.back();
+            calls += 9;
+        }
+    }
+
+    /** By whether a ONE or what is behind one is due, and how many ( are open. */
+    private static int firstThatCantStand(String[] sum, String t) {
+        boolean oneIsDue = true;
+        int open = 0;
+        int place = "price ".length();
+        for (int i = 0; i < sum.length; i++) {
+            boolean one = "7 pounds".contains(sum[i]);
+            boolean opener = "( - double crock".contains(sum[i]);
+            boolean joint = "+ - * /".contains(sum[i]);
+            boolean last = sum[i].equals(";") && open == 0;
+            boolean stands = oneIsDue ? one || opener : joint || last || sum[i].equals(")") && open > 0;
+            if (!stands) {
+                return place;
+            }
+            place += sum[i].length() + 1;
+            if (last) {
+                // Behind a CLAUSE none of these tokens can stand.
+                return i == sum.length - 1 ? -1 : place;
+            }
+            open += sum[i].equals("(") ? 1 : sum[i].equals(")") ? -1 : 0;
+            oneIsDue = oneIsDue ? opener : joint;
+        }
+        return t.length();
     }
 
     private static void numbersOfClauses() {
