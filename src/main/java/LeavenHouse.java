@@ -1712,7 +1712,11 @@ public final class LeavenHouse {
             int last = wanted[wantedCount - 1];
             int next = wanted[met];
             int low = Math.max(links[k] + 1, leastNext(last, left));
-            for (int v = sumFrom(k, low); v <= next; v = sumFrom(k, v + 1)) {
+            for (int v = low; v <= next; v++) {
+                v = Math.max(v, sumFrom(k, v));
+                if (v > next) {
+                    break;
+                }
                 // A last link that doesn't come of the next one would make a shorter chain.
                 if (left == 2 && next == last && v + v != last && !isLink(k, last - v)) {
                     continue;
@@ -1791,9 +1795,12 @@ public final class LeavenHouse {
             }
             long sum = 0;
             int low = Math.max(links[k] + 1, leastNext(n, left));
-            for (int v = sumFrom(k, low); v < n; v = sumFrom(k, v + 1)) {
-                put(k + 1, v);
-                sum += tally(k + 1, n);
+            for (int v = low; v < n; v++) {
+                v = Math.max(v, sumFrom(k, v));
+                if (v < n) {
+                    put(k + 1, v);
+                    sum += tally(k + 1, n);
+                }
             }
             return sum;
         }
@@ -1852,7 +1859,7 @@ public final class LeavenHouse {
         /** What must be paid yet at least: each step doubles at most. */
         private int leastFrom(int last, long there) {
             int steps = 0;
-            for (int v = last; v < goal; v *= 2) {
+            for (int v = Math.max(last, 1); v < goal; v *= 2) {
                 steps++;
             }
             if (steps == 0 || joined <= twice) {
